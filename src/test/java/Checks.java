@@ -1,18 +1,29 @@
 /** Counts and prints the answers that are not the ones due. */
 final class Checks {
     private int wrong = 0;
+    private String sentence = "";
+
+    /** Runs the test of one sentence of the document; a call that throws does not hide the other sentences. */
+    void sentence(String words, Runnable test) {
+        sentence = "[" + words + "] ";
+        try {
+            test.run();
+        } catch (RuntimeException thrown) {
+            holds("that no call throws (" + thrown + ")", false);
+        }
+    }
 
     void due(String what, long got, long want) {
         if (got != want) {
             wrong++;
-            System.out.println(what + " answered " + got + ", due is " + want);
+            System.out.println(sentence + what + " answered " + got + ", due is " + want);
         }
     }
 
     void holds(String what, boolean truth) {
         if (!truth) {
             wrong++;
-            System.out.println(what + " does not hold");
+            System.out.println(sentence + what + " does not hold");
         }
     }
 
@@ -22,6 +33,13 @@ final class Checks {
             int answer = solver.token(pairs[i], pairs[i + 1]);
             holds("token(" + pairs[i] + ", " + pairs[i + 1] + ") is taken", answer >= 0);
         }
+    }
+
+    /** A new object that has taken these (code, arg) pairs. */
+    FlatSolver solver(int... pairs) {
+        FlatSolver solver = new FlatSolver();
+        tokens(solver, pairs);
+        return solver;
     }
 
     void end() {

@@ -1,21 +1,5 @@
 /** Each promise of the document by hand-worked answers: ordinary inputs, named edges, wrong inputs. */
-public final class PromisesTest {
-    private static final int NUMBER = 0;
-    private static final int VARIABLE = 1;
-    private static final int ADD = 2;
-    private static final int SUB = 3;
-    private static final int MUL = 4;
-    private static final int MIN = 5;
-    private static final int MAX = 6;
-    private static final int EQUAL = 7;
-    private static final int LESS = 8;
-    private static final int AND = 9;
-    private static final int OR = 10;
-    private static final int NOT = 11;
-    private static final int DEMAND = 12;
-    private static final int LEAST = Integer.MIN_VALUE;
-    private static final int MOST = Integer.MAX_VALUE;
-
+public final class PromisesTest extends Codes {
     private static final Checks CHECKS = new Checks();
 
     public static void main(String[] args) {
